@@ -291,6 +291,14 @@ public final class ActsTest {
         Due.evening(ball, "cast sam flood ann ; minute ; minute ; minute ;");
         Due.is("nobody", ball.judged(1), -1);
         Due.is("ann and dee", ball.judged(2), 2);
+        Due.evening(ball, "cast sam dogs ann ; minute ; minute ; minute ; minute ;");
+        Due.is("sunk with it on", ball.judged(1), 3);
+        Due.evening(ball, "cast sam weather ann ; cast tom weather cy ;");
+        Due.is("not on the wall", ball.judged(0), 1);
+        ball = Due.ball();
+        ball.cast(0, 0, 0);
+        Due.evening(ball, "stop sam ;");
+        Due.is("free at the begin", ball.judged(0), -1);
     }
 
     private static void judgedBars() {
@@ -371,6 +379,7 @@ public final class ActsTest {
         Due.is("seen", ball.count(11), 1);
         Due.is("seen", ball.holes(), 4);
         Due.is("the evening is none of it", ball.count(10), 1);
+        markedSeen();
         Due.is("nothing can be undone", ball.undo(), false);
         Due.is("gone back", ball.mark(0, true), true);
         Due.is("minute", ball.count(3), 7);
@@ -384,6 +393,29 @@ public final class ActsTest {
         ball.mark(3, true);
         Due.is("minute", ball.count(3), 1);
         Due.is("others are not laid", ball.mark(1, true), false);
+    }
+
+    private static void markedSeen() {
+        SilenceBall ball = Due.ball();
+        ball.see(8, 2);
+        ball.mark(1, false);
+        Due.room(ball, "tea");
+        Due.is("seen", ball.holes(), 4);
+        SilenceBall other = Due.ball();
+        other.mark(0, false);
+        other.see(10, 2);
+        other.mark(1, false);
+        other.mark(0, true);
+        Due.is("nothing seen", other.holes(), 1023);
+        other.see(7, 1);
+        Due.is("by 3", other.holes(), 8);
+        other.mark(1, true);
+        Due.is("4 + 2 * 3", other.holes(), 8);
+        other.mark(0, true);
+        other.see(13, 1);
+        Due.is("by 9", other.holes(), 512);
+        other.mark(1, true);
+        Due.is("what was marked", other.holes(), 8);
     }
 
     private static void markAndRoom() {

@@ -17,6 +17,7 @@ public final class CastingTest {
         spare();
         save();
         worth();
+        fullRoom();
         Due.end();
     }
 
@@ -230,6 +231,9 @@ public final class CastingTest {
         Due.is("at 9", ball.dense(), 9);
         Due.is("nobody", new SilenceBall().row(), 0);
         Due.is("nobody", new SilenceBall().dense(), -1);
+        ball = Due.ball("guest a plain at 1 chin 9 breath 1 weighs 4 ; guest b plain at 1 chin 9 breath 1 weighs 4 ; guest c plain at 9 chin 9 breath 1 weighs 4 ;");
+        Due.is("two at 1", ball.row(), 2);
+        Due.is("at 1", ball.dense(), 1);
     }
 
     private static void tight() {
@@ -265,6 +269,45 @@ public final class CastingTest {
         ball.minute();
         Due.is("nobody else is in it", ball.spare(), 7);
         Due.is("none", new SilenceBall().spare(), 0);
+    }
+
+    /** As many of each as there can be: what the last ones come to. */
+    private static void fullRoom() {
+        StringBuilder text = new StringBuilder("water 9 ; rises 0 ;");
+        for (int g = 0; g < 6; g++) {
+            text.append("guest g").append((char) ('a' + g)).append(" plain at 9 chin ").append(8 - g).append(" breath ").append(6 - g)
+                .append(" weighs ").append(6 - g).append(" ;");
+        }
+        for (int b = 0; b < 5; b++) {
+            text.append("belt b").append((char) ('a' + b)).append(" bears ").append(5 - b).append(" ;");
+        }
+        text.append("man ma at 9 reach 9 ; man mb at 9 reach 9 ; man mc at 8 reach 1 ;");
+        SilenceBall ball = Due.ball(text.toString());
+        Due.is("all cry", ball.cries(), 63);
+        Due.is("all are under", ball.under(), 63);
+        Due.is("five belts are too few", ball.need(), -1);
+        rowIs("three men", ball, 3, new int[] {1, 2, 3}, new int[] {0, 1, 2});
+        Due.is("could", ball.could(2), 63);
+        Due.is("fits", ball.fits(4), 32);
+        Due.is("fits", ball.fits(0), 62);
+        Due.is("enough", ball.enough(5), 4);
+        Due.is("spare", ball.spare(), 0);
+        Due.is("near", ball.near(5), 0);
+        Due.is("tight", ball.tight(), 5);
+        Due.is("row", ball.row(), 6);
+        Due.is("first", ball.first(), 5);
+        Due.is("lost", ball.lost(3), 56);
+        Due.is("lost", ball.lost(60), 63);
+        Due.is("quiet", ball.quiet(), 6);
+        Due.is("worth", ball.worth(2), 5);
+        Due.is("the last to the last by the last", ball.cast(2, 4, 5), true);
+        Due.is("none bears the heaviest", ball.need(), -1);
+        rowIs("two men", ball, 2, new int[] {1, 2, -1}, new int[] {0, 1, -1});
+        Due.is("nobody is sunk yet", ball.minute(), 0);
+        Due.is("four", ball.lost(4), 30);
+        Due.is("five", ball.lost(5), 31);
+        Due.pass(ball, 5);
+        Due.is("the last one is held", ball.quiet(), 3);
     }
 
     private static void save() {

@@ -115,12 +115,19 @@ public final class ReadingTest {
         Due.is("by the law", ball.later(3), 1);
         Due.room(ball, Due.GUESTS + Due.REST);
         Due.is("the law is gone", ball.later(3), 10);
+        ball.stop(0);
         Due.pass(ball, 4);
+        ball.stop(1);
         Due.is("ann is sunk", ball.count(8), 1);
         Due.room(ball, Due.GUESTS + Due.REST);
         Due.is("ann is in it", ball.count(6), 15);
         Due.is("breath", ball.guest(0, 3), 2);
         Due.is("where", ball.guest(3, 1), 2);
+        Due.is("free", ball.man(1, 2), 1);
+        for (int n = 1; n <= 3; n++) {
+            Due.is("told once in each", Due.room(ball, "rises " + n + " ; holes 1 ; water 1 ;"), 0);
+            Due.is("the new law", ball.later(1), 1 + n);
+        }
     }
 
     private static void tokens() {
@@ -150,6 +157,8 @@ public final class ReadingTest {
         fault("guest |plain", 1);
         fault("guest g |", 1);
         fault("guest g |tall", 1);
+        fault("guest g |minute", 1);
+        fault("guest g |reach", 1);
         fault("guest g |at", 1);
         fault("guest g plain |chin", 1);
         fault("guest g plain at |chin", 1);

@@ -92,6 +92,17 @@ public final class ReckonedTest {
         Due.is("of equal ones the first", ball.look(), 2);
         ball.see(6, 20);
         Due.is("five are left, all alike", ball.look(), -1);
+        for (int holes = 0; holes <= 9; holes++) {
+            ball = Due.ball();
+            ball.see(4 + 3 * holes, 3);
+            Due.is("one is left", ball.holes(), 1 << holes);
+            Due.is("nothing to part", ball.look(), -1);
+        }
+        ball = Due.ball("rises 9 * ( depth = 0 ) + ( 8 < depth and depth < 18 ) * ( gaps = 0 or gaps = 9 ) + ( 11 < depth ) * ( gaps < 9 ) ;");
+        // 9 behind one by all; 0 and 9 climb from then on, 9 stays behind at 12 .. when 0 makes two
+        ball.see(10, 2);
+        Due.is("two are left", ball.holes(), 513);
+        Due.is("parted behind five", ball.look(), 5);
     }
 
     private static void chance() {
@@ -200,17 +211,37 @@ public final class ReckonedTest {
         Due.is("sunk", ball.balls(0, 99, 1), 5);
         Due.is("cast", ball.balls(0, 99, 0), 0);
         Due.is("all is as ahead", ball.count(3), 0);
+        // one is sunk as soon as there is a question: it needs men and guests and belts
+        String guest = "guest a plain at 9 chin 1 breath 1 weighs 1 ;";
+        Due.is("no men", Due.ball(guest + " belt b bears 1 ;").balls(0, 99, 1), 0);
+        Due.is("no belts", Due.ball(guest + " man m at 0 reach 0 ;").balls(0, 99, 1), 0);
+        Due.is("all there", Due.ball(guest + " man m at 0 reach 0 ; belt b bears 1 ;").balls(0, 99, 1), 1);
+        ball = Due.ball("guest a shabby at 9 chin 1 breath 1 weighs 1 ;");
+        Due.is("the shabby one walks", ball.balls(3, 9, 2), 1);
+        Due.is("the shabby one walks", ball.balls(3, 8, 2), 0);
+    }
+
+    private static void ballsBySeed() {
+        played(Due.GUESTS + Due.REST);
+        // sunk by how many questions were asked until when, by breath
+        StringBuilder text = new StringBuilder(" holes 3 ; belt flood bears 3 ; belt weather bears 30 ; belt dogs bears 9 ;"
+            + " man sam at 0 reach 4 ; man tom at 6 reach 9 ; rises gaps * 3 - 10 + 2 * out ;");
+        for (int g = 0; g < 4; g++) {
+            text.append("guest g").append((char) ('a' + g)).append(" plain at ").append(2 * g + 2).append(" chin ").append(5 + 3 * g)
+                .append(" breath ").append(g + 1).append(" weighs ").append(7 * g + 1).append(" ;");
+        }
+        played(text.toString());
     }
 
     /** Played here by hand, with the draws, upon another ball. */
-    private static void ballsBySeed() {
-        SilenceBall ball = Due.ball();
+    private static void played(String room) {
+        SilenceBall ball = Due.ball(room);
         ball.ask();
         ball.cast(0, 2, 0);
         for (int seed = 0; seed < 10000; seed += 303) {
             int minutes = 1 + seed % 30;
             int cast = 0;
-            SilenceBall other = Due.ball();
+            SilenceBall other = Due.ball(room);
             other.ask();
             other.cast(0, 2, 0);
             long g = seed;
@@ -235,7 +266,7 @@ public final class ReckonedTest {
             Due.is(told + " sunk", ball.balls(seed, minutes, 1), other.count(8));
             Due.is(told + " safe", ball.balls(seed, minutes, 2), other.count(7));
         }
-        Due.is("all is as ahead", ball.count(4), 3);
+        Due.is("all is as ahead", ball.count(3), 0);
         Due.is("all is as ahead", ball.count(12), 2);
     }
 }
