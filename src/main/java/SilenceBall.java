@@ -446,7 +446,7 @@ public final class SilenceBall {
         }
         ahead.copyFrom(now);
         ahead.giveBelt(man, belt, guest);
-        for (int n = 0; n < FARTHEST_MINUTE; n++) {
+        for (int n = 0; n < FARTHEST_MINUTE && ahead.isIn(guest); n++) {
             ahead.pass();
         }
         return !ahead.isInState(guest, SUNK);
@@ -456,9 +456,11 @@ public final class SilenceBall {
         if (!house.isMan(man)) {
             return NONE;
         }
+        goAhead(FARTHEST_MINUTE);
+        int sunk = ahead.whoIs(SUNK);
         int saved = 0;
         for (int g = 0; g < house.guests; g++) {
-            if (minutesUntil(g, SUNK) != NONE && isSavedBy(g, man, house.leastBelt(g))) {
+            if ((sunk >> g & 1) == 1 && isSavedBy(g, man, house.leastBelt(g))) {
                 saved++;
             }
         }
@@ -740,7 +742,6 @@ public final class SilenceBall {
             advance();
         }
 
-        /** Comes to the next token. */
         void advance() {
             while (next < length && isBlank(signAt(next))) {
                 next++;
@@ -1034,7 +1035,6 @@ public final class SilenceBall {
             return belt >= 0 && belt < belts && guest >= 0 && guest < guests && bears[belt] >= weight[guest];
         }
 
-        /** The belt that bears the guest and bears the least. */
         int leastBelt(int guest) {
             int least = NONE;
             for (int b = 0; b < belts; b++) {
@@ -1045,7 +1045,6 @@ public final class SilenceBall {
             return least;
         }
 
-        /** How much the belts of a set bear together. */
         int bearing(int set) {
             int sum = 0;
             for (int b = 0; b < belts; b++) {
@@ -1567,7 +1566,6 @@ public final class SilenceBall {
                 && !house.isBorne(belt[guest], guest);
         }
 
-        /** One to whom a belt can come at all. */
         private boolean wantsBelt(int guest) {
             return house.isGuest(guest) && state[guest] == IN && belt[guest] == NONE && !house.isShabby(guest);
         }
