@@ -14,6 +14,7 @@ public final class ReadingTest {
         once();
         tooMany();
         laws();
+        longLaws();
         levels();
         evenings();
         eveningFaults();
@@ -307,6 +308,23 @@ public final class ReadingTest {
         fault("rises |x ;", 1);
         fault("rises 1 |x ;", 1);
         right("rises (1)and(2)or not(3);");
+    }
+
+    private static void longLaws() {
+        SilenceBall ball = new SilenceBall();
+        String law = "rises 500" + "-1".repeat(495) + ";";
+        Due.is("the tape is full", Due.feed(ball, law), 1000);
+        Due.is("all of it is read", ball.room(), 0);
+        Due.is("500 - 495", ball.later(1), 5);
+        Due.is("lines on a full tape", Due.feed(ball, "rises 1;".repeat(125)), 1000);
+        Due.is("the second", ball.room(), 3 + 16 * 8);
+        Due.feed(ball, "rises 7" + " ".repeat(992) + ";;");
+        Due.is("what is beyond is none", ball.room(), 0);
+        Due.is("the new law", ball.later(1), 7);
+        // as many parts pending as can be
+        law("0 or 0 = 0 + 1 * ( 1 and 2 < 1 + 1 * ( 0 or 3 = 1 + 2 * ( 1 and 4 < 3 + 2 * ( 0 or 5 = 1 + 2 * 2 ) ) ) )", 1);
+        law("0 or 1 = 0 + 1 * ( 1 and 1 < 1 + 1 * ( 0 or 3 = 1 + 2 * ( 1 and 4 < 3 + 2 * ( 0 or 5 = 1 + 2 * 2 ) ) ) )", 1);
+        law("0 or 1 = 0 + 1 * ( 1 and 1 < 1 + 1 * ( 0 or 3 = 1 + 2 * ( 1 and 4 < 3 + 2 * ( 0 or 6 = 1 + 2 * 2 ) ) ) )", 0);
     }
 
     private static void levels() {
