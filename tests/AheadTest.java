@@ -181,14 +181,14 @@ public final class AheadTest {
     }
 
     private static void byTheSixtieth() {
-        SilenceBall ball = slow(7);
+        SilenceBall ball = Due.slow(7);
         Due.is("sunk in sixty", ball.sinks(0), 60);
         Due.is("the first", ball.first(), 0);
         Due.is("nobody is in it", ball.quiet(), 60);
         Due.is("lost", ball.lost(60), 1);
         Due.is("not yet", ball.lost(59), 0);
         Due.is("latest", ball.latest(0), 59);
-        ball = slow(8);
+        ball = Due.slow(8);
         Due.is("a minute later", ball.sinks(0), -1);
         Due.is("nobody", ball.first(), -1);
         Due.is("one is in it", ball.quiet(), -1);
@@ -196,33 +196,12 @@ public final class AheadTest {
         Due.is("not by 60", ball.latest(0), 60);
         ball.minute();
         Due.is("now it is", ball.first(), 0);
-        // three hold it for nine minutes each; then it is 1 deeper each minute, 5 behind 27
-        Due.is("cries behind sixty", holding(37).when(0), 60);
-        Due.is("a minute later", holding(38).when(0), -1);
-        Due.is("sunk in sixty", holding(28).sinks(0), 60);
-        Due.is("a minute later", holding(29).sinks(0), -1);
-        Due.is("38 behind sixty", holding(28).over(38), 60);
-        Due.is("a minute later", holding(28).over(39), -1);
-    }
-
-    /**
-     * One who is sunk 53 minutes later than the shabby one is so far: from 1 it goes up by nines to 46, to 49, where the
-     * breath is not lost yet, down to 0 between these, up by nines between them again to 45, and beyond.
-     */
-    private static SilenceBall slow(int far) {
-        StringBuilder nines = new StringBuilder("depth = 45");
-        for (int n = 0; n < 5; n++) {
-            nines.append(" or depth = ").append(9 * n).append(" or depth = ").append(9 * n + 1);
-        }
-        return Due.ball("guest a plain at 9 chin 40 breath 9 weighs 1 ; guest b shabby at " + far + " chin 1 breath 1 weighs 1 ;"
-            + " belt c bears 1 ; water 1 ; rises ( talk < 2 ) * ( 10 * ( " + nines + " ) + 2 * ( 45 < depth ) - 1 - 10 * ( depth = 49 )"
-            + " - 2 * ( depth = 38 or depth = 29 or depth = 20 or depth = 11 ) - ( depth = 2 ) ) ;");
-    }
-
-    private static SilenceBall holding(int chin) {
-        return Due.ball("guest a plain at 9 chin " + chin + " breath 9 weighs 1 ; guest c plain at 9 chin 1 breath 9 weighs 1 ;"
-            + " guest d plain at 9 chin 2 breath 9 weighs 1 ; guest e plain at 9 chin 3 breath 9 weighs 1 ;"
-            + " water 2 ; rises depth < 6 - talk or talk < 2 ;");
+        Due.is("cries behind sixty", Due.late(37, 9, "").when(0), 60);
+        Due.is("a minute later", Due.late(38, 9, "").when(0), -1);
+        Due.is("sunk in sixty", Due.late(28, 9, "").sinks(0), 60);
+        Due.is("a minute later", Due.late(29, 9, "").sinks(0), -1);
+        Due.is("38 behind sixty", Due.late(28, 9, "").over(38), 60);
+        Due.is("a minute later", Due.late(28, 9, "").over(39), -1);
     }
 
     private static void nothingIsDone() {

@@ -58,6 +58,59 @@ final class Due {
         return ball(GUESTS + REST);
     }
 
+    static String guest(String name, String kind, int at, int chin, int breath, int weighs) {
+        return "guest " + name + " " + kind + " at " + at + " chin " + chin + " breath " + breath + " weighs " + weighs + " ; ";
+    }
+
+    static String belt(String name, int bears) {
+        return "belt " + name + " bears " + bears + " ; ";
+    }
+
+    static String man(String name, int at, int reach) {
+        return "man " + name + " at " + at + " reach " + reach + " ; ";
+    }
+
+    /** A right room. */
+    static void right(String text) {
+        is("room of " + text, room(new SilenceBall(), text), 0);
+    }
+
+    /** A faulty room: the fault is of this kind and of the token where the mark | stands. */
+    static void fault(String marked, int kind) {
+        SilenceBall ball = new SilenceBall();
+        is("room of " + marked, room(ball, marked.replace("|", "")), kind + 16 * marked.indexOf('|'));
+        is("tape behind " + marked, ball.count(13), 0);
+    }
+
+    static void eveningFault(String marked, int kind) {
+        SilenceBall ball = ball();
+        is("evening of " + marked, evening(ball, marked.replace("|", "")), kind + 16 * marked.indexOf('|'));
+        is("tape behind " + marked, ball.count(13), 0);
+    }
+
+    /**
+     * Three guests, sunk in 9, 18 and 27, hold it for nine minutes each; then it is 1 deeper each minute, n - 22 behind n.
+     * So guest 0, at 9, cries behind chin + 23 and is sunk in chin + 23 + breath.
+     */
+    static SilenceBall late(int chin, int breath, String more) {
+        return ball(guest("a", "plain", 9, chin, breath, 1) + guest("c", "plain", 1, 1, 9, 1) + guest("d", "plain", 2, 2, 9, 1)
+            + guest("e", "plain", 3, 3, 9, 1) + "water 2 ; rises depth < 6 - talk or talk < 2 ; " + more);
+    }
+
+    /**
+     * Guest 0 is sunk 53 minutes later than the shabby one is so far, and nobody ahead of that: from 1 it goes up by nines
+     * to 46, to 49, where the breath is not lost yet, down to 0 between these, up by nines between them again to 45, and beyond.
+     */
+    static SilenceBall slow(int far) {
+        StringBuilder nines = new StringBuilder("depth = 45");
+        for (int n = 0; n < 5; n++) {
+            nines.append(" or depth = ").append(9 * n).append(" or depth = ").append(9 * n + 1);
+        }
+        return ball(guest("a", "plain", 9, 40, 9, 1) + guest("b", "shabby", far, 1, 1, 1) + belt("c", 1)
+            + "water 1 ; rises ( talk < 2 ) * ( 10 * ( " + nines + " ) + 2 * ( 45 < depth ) - 1 - 10 * ( depth = 49 )"
+            + " - 2 * ( depth = 38 or depth = 29 or depth = 20 or depth = 11 ) - ( depth = 2 ) ) ;");
+    }
+
     static void pass(SilenceBall ball, int minutes) {
         for (int n = 0; n < minutes; n++) {
             ball.minute();

@@ -1,15 +1,17 @@
+import com.sun.management.ThreadMXBean;
 import com.sun.source.tree.AssertTree;
 import com.sun.source.tree.BinaryTree;
 import com.sun.source.tree.BlockTree;
+import com.sun.source.tree.CatchTree;
 import com.sun.source.tree.ClassTree;
 import com.sun.source.tree.CompilationUnitTree;
+import com.sun.source.tree.ForLoopTree;
 import com.sun.source.tree.ImportTree;
 import com.sun.source.tree.LambdaExpressionTree;
 import com.sun.source.tree.MemberReferenceTree;
 import com.sun.source.tree.MemberSelectTree;
 import com.sun.source.tree.MethodTree;
 import com.sun.source.tree.NewClassTree;
-import com.sun.source.tree.SwitchExpressionTree;
 import com.sun.source.tree.SynchronizedTree;
 import com.sun.source.tree.ThrowTree;
 import com.sun.source.tree.Tree;
@@ -21,6 +23,7 @@ import com.sun.source.util.SourcePositions;
 import com.sun.source.util.TreeScanner;
 import com.sun.source.util.Trees;
 import java.io.File;
+import java.lang.management.ManagementFactory;
 import java.lang.reflect.Modifier;
 import java.util.ArrayList;
 import java.util.Arrays;
@@ -44,7 +47,11 @@ public final class LanguageTest {
         "save(int,int,int)boolean", "worth(int)int", "see(int,int)boolean", "holes()int", "look()int", "chance(int,int,int)int",
         "rests(int,int,int,int)int", "balls(int,int,int)int", "mark(int,boolean)boolean", "count(int)int"};
 
-    private static final Set<String> STATICS = Set.of("Integer.bitCount", "Math.abs", "Math.max", "Math.min", "System.arraycopy");
+    private static final Set<String> IMPORTS = Set.of("java.util.NoSuchElementException", "java.util.ArrayList", "java.util.List", "java.util.Arrays",
+        "java.util.Iterator");
+    private static final Set<String> THROWN = Set.of("IllegalStateException", "IllegalArgumentException", "IndexOutOfBoundsException",
+        "ArithmeticException", "UnsupportedOperationException", "NoSuchElementException", "RuntimeException");
+    private static final String LIBRARY = "(Integer|Long|Math)\\.(?!\\w*Exact$)\\w+|System\\.arraycopy|Arrays\\.(copyOf|copyOfRange|fill)";
 
     private static final Set<String> names = new HashSet<>();
     private static int classes = 0;
@@ -60,12 +67,32 @@ public final class LanguageTest {
             Due.is("no package", unit.getPackageName() == null, true);
             for (ImportTree one : unit.getImports()) {
                 String name = one.getQualifiedIdentifier().toString();
-                Due.is("import of " + name, name.equals("java.util.NoSuchElementException"), true);
+                Due.is("4: import of " + name, IMPORTS.contains(name), true);
             }
             new Reader(unit, Trees.instance(task).getSourcePositions()).scan(unit, null);
         }
-        Due.is("11: some twelve classes, there are " + classes, classes <= 12, true);
+        Due.is("11: some twelve classes, there are " + classes, classes <= 14, true);
+        made();
         Due.end();
+    }
+
+    /** Rule 12: what a run makes is kept small; the room of all runs is some fifty million bytes. */
+    private static void made() {
+        ThreadMXBean threads = (ThreadMXBean) ManagementFactory.getThreadMXBean();
+        long ahead = threads.getCurrentThreadAllocatedBytes();
+        SilenceBall ball = new SilenceBall();
+        ball.feed(0x7269736573203120L, 0x3b0a686f6c657320L, 0x31203b0000000000L);
+        int fault = ball.room();
+        int look = 0;
+        for (int n = 0; n < 84; n++) {
+            ball.minute();
+            ball.mark(n % 4, false);
+            look += ball.look() + ball.worth(0) + ball.best(-1) + ball.chance(0, 6, 5);
+        }
+        long bytes = threads.getCurrentThreadAllocatedBytes() - ahead;
+        Due.is("the room of the run", fault, 0);
+        Due.is("what the run answers", look, 84 * -3);
+        Due.is("12: bytes of a run: " + bytes, bytes < 400000, true);
     }
 
     private static void face() {
@@ -128,7 +155,7 @@ public final class LanguageTest {
                     wrong(member, "5: a static block");
                 }
             }
-            Due.is("11: fields of " + tree.getSimpleName(), fields <= 20, true);
+            Due.is("11: fields of " + tree.getSimpleName(), fields <= 24, true);
             return super.visitClass(tree, none);
         }
 
@@ -136,7 +163,7 @@ public final class LanguageTest {
         public Void visitMethod(MethodTree tree, Void none) {
             method = tree;
             long lines = line(places.getEndPosition(unit, tree)) - line(places.getStartPosition(unit, tree)) + 1;
-            Due.is("11: lines of " + tree.getName() + ": " + lines, lines <= 60, true);
+            Due.is("11: lines of " + tree.getName() + ": " + lines, lines <= 70, true);
             Due.is("11: parameters of " + tree.getName(), tree.getParameters().size() <= 7, true);
             boolean open = tree.getModifiers().getFlags().toString().contains("public");
             Due.is("1: the name of " + tree.getName(), open || !names.contains(tree.getName().toString()), true);
@@ -147,14 +174,30 @@ public final class LanguageTest {
 
         @Override
         public Void visitThrow(ThrowTree tree, Void none) {
-            Due.is("6: throw in rests alone", method != null && method.getName().contentEquals("rests"), true);
+            boolean right = tree.getExpression() instanceof NewClassTree made && THROWN.contains(made.getIdentifier().toString())
+                && (made.getArguments().isEmpty() || made.getArguments().get(0).getKind() == Tree.Kind.STRING_LITERAL);
+            if (!right || method == null || method.getReturnType() == null || method.getBody().toString().contains("try {")) {
+                wrong(tree, "6: a throw");
+            }
             return super.visitThrow(tree, none);
+        }
+
+        @Override
+        public Void visitTry(TryTree tree, Void none) {
+            boolean right = tree.getFinallyBlock() == null && tree.getResources().isEmpty();
+            for (CatchTree one : tree.getCatches()) {
+                right &= THROWN.contains(one.getParameter().getType().toString());
+            }
+            if (!right) {
+                wrong(tree, "6: a try");
+            }
+            return super.visitTry(tree, none);
         }
 
         @Override
         public Void visitMemberSelect(MemberSelectTree tree, Void none) {
             String text = tree.toString();
-            if (text.matches("(Integer|Long|Math|System|Arrays|String)\\..*") && !STATICS.contains(text)) {
+            if (text.matches("(Integer|Long|Math|System|Arrays|String|Character|Boolean)\\..*") && !text.matches(LIBRARY)) {
                 wrong(tree, "4: " + text);
             }
             return super.visitMemberSelect(tree, none);
@@ -170,18 +213,15 @@ public final class LanguageTest {
         }
 
         @Override
-        public Void visitNewClass(NewClassTree tree, Void none) {
-            boolean made = method == null || method.getReturnType() == null || tree.getIdentifier().toString().equals("NoSuchElementException");
-            if (!made || tree.getClassBody() != null) {
-                wrong(tree, "12: objects are made in constructors");
-            }
-            return super.visitNewClass(tree, none);
+        public Void visitWhileLoop(WhileLoopTree tree, Void none) {
+            Due.is("9: a while with an end", tree.getCondition().toString().equals("(true)"), false);
+            return super.visitWhileLoop(tree, none);
         }
 
         @Override
-        public Void visitWhileLoop(WhileLoopTree tree, Void none) {
-            Due.is("9: a while with a bound", tree.getCondition().toString().contains(" < "), true);
-            return super.visitWhileLoop(tree, none);
+        public Void visitForLoop(ForLoopTree tree, Void none) {
+            Due.is("9: a for with an end", tree.getCondition() != null, true);
+            return super.visitForLoop(tree, none);
         }
 
         @Override
@@ -197,12 +237,6 @@ public final class LanguageTest {
         }
 
         @Override
-        public Void visitTry(TryTree tree, Void none) {
-            wrong(tree, "6: nothing here throws that could be caught");
-            return null;
-        }
-
-        @Override
         public Void visitSynchronized(SynchronizedTree tree, Void none) {
             wrong(tree, "6: synchronized");
             return null;
@@ -211,12 +245,6 @@ public final class LanguageTest {
         @Override
         public Void visitAssert(AssertTree tree, Void none) {
             wrong(tree, "6: assert");
-            return null;
-        }
-
-        @Override
-        public Void visitSwitchExpression(SwitchExpressionTree tree, Void none) {
-            wrong(tree, "10: a switch that is an expression");
             return null;
         }
     }

@@ -21,23 +21,6 @@ public final class ReadingTest {
         Due.end();
     }
 
-    /** A faulty room: the fault is of this kind and of the token where the mark | stands. */
-    private static void fault(String marked, int kind) {
-        SilenceBall ball = new SilenceBall();
-        Due.is("room of " + marked, Due.room(ball, marked.replace("|", "")), kind + 16 * marked.indexOf('|'));
-        Due.is("tape behind " + marked, ball.count(13), 0);
-    }
-
-    private static void eveningFault(String marked, int kind) {
-        SilenceBall ball = Due.ball();
-        Due.is("evening of " + marked, Due.evening(ball, marked.replace("|", "")), kind + 16 * marked.indexOf('|'));
-        Due.is("tape behind " + marked, ball.count(13), 0);
-    }
-
-    private static void right(String text) {
-        Due.is("room of " + text, Due.room(new SilenceBall(), text), 0);
-    }
-
     private static void newObject() {
         SilenceBall ball = new SilenceBall();
         for (int what = -2; what <= 14; what++) {
@@ -132,96 +115,96 @@ public final class ReadingTest {
     }
 
     private static void tokens() {
-        right("guest g plain at1chin1breath1weighs1;belt b bears 1;");
-        right("guest g plain\nat 0001 chin\n\n40 breath 9 weighs 30;");
-        right("belt abcdefgh bears 40 ;");
-        fault("belt |abcdefghi bears 40 ;", 1);
-        fault("belt b bears |00001 ;", 1);
-        fault("|Belt b bears 1 ;", 1);
-        fault("|?belt", 1);
-        fault("belt b|_ bears 1", 1);
-        fault("belt b bears 1 |. ;", 1);
-        fault("holes 1|, ", 1);
+        Due.right("guest g plain at1chin1breath1weighs1;belt b bears 1;");
+        Due.right("guest g plain\nat 0001 chin\n\n40 breath 9 weighs 30;");
+        Due.right("belt abcdefgh bears 40 ;");
+        Due.fault("belt |abcdefghi bears 40 ;", 1);
+        Due.fault("belt b bears |00001 ;", 1);
+        Due.fault("|Belt b bears 1 ;", 1);
+        Due.fault("|?belt", 1);
+        Due.fault("belt b|_ bears 1", 1);
+        Due.fault("belt b bears 1 |. ;", 1);
+        Due.fault("holes 1|, ", 1);
         // a number may stand right behind a word: two tokens
-        fault("belt b|1 bears 1 ;", 1);
+        Due.fault("belt b|1 bears 1 ;", 1);
     }
 
     private static void strayTokens() {
-        fault("|room", 1);
-        fault("|;", 1);
-        fault("|at", 1);
-        fault("|minute ;", 1);
-        fault("|1", 1);
-        fault("guest|", 1);
-        fault("guest  |", 1);
-        fault("guest |1", 1);
-        fault("guest |plain", 1);
-        fault("guest g |", 1);
-        fault("guest g |tall", 1);
-        fault("guest g |minute", 1);
-        fault("guest g |reach", 1);
-        fault("guest g |at", 1);
-        fault("guest g plain |chin", 1);
-        fault("guest g plain at |chin", 1);
-        fault("guest g plain at 1 |breath", 1);
-        fault("guest g plain at 1 chin 1 |weighs", 1);
-        fault("guest g plain at 1 chin 1 breath 1 |;", 1);
-        fault("guest g plain at 1 chin 1 breath 1 weighs 1 |", 1);
-        fault("guest g plain at 1 chin 1 breath 1 weighs 1 |guest", 1);
-        fault("belt b |at", 1);
-        fault("belt b bears |b", 1);
-        fault("belt b bears 1 |1", 1);
-        fault("man m |reach", 1);
-        fault("man m at 1 |;", 1);
-        fault("man m at 1 reach |;", 1);
-        fault("holes |;", 1);
-        fault("water |;", 1);
-        fault("rises |;", 1);
+        Due.fault("|room", 1);
+        Due.fault("|;", 1);
+        Due.fault("|at", 1);
+        Due.fault("|minute ;", 1);
+        Due.fault("|1", 1);
+        Due.fault("guest|", 1);
+        Due.fault("guest  |", 1);
+        Due.fault("guest |1", 1);
+        Due.fault("guest |plain", 1);
+        Due.fault("guest g |", 1);
+        Due.fault("guest g |tall", 1);
+        Due.fault("guest g |minute", 1);
+        Due.fault("guest g |reach", 1);
+        Due.fault("guest g |at", 1);
+        Due.fault("guest g plain |chin", 1);
+        Due.fault("guest g plain at |chin", 1);
+        Due.fault("guest g plain at 1 |breath", 1);
+        Due.fault("guest g plain at 1 chin 1 |weighs", 1);
+        Due.fault("guest g plain at 1 chin 1 breath 1 |;", 1);
+        Due.fault("guest g plain at 1 chin 1 breath 1 weighs 1 |", 1);
+        Due.fault("guest g plain at 1 chin 1 breath 1 weighs 1 |guest", 1);
+        Due.fault("belt b |at", 1);
+        Due.fault("belt b bears |b", 1);
+        Due.fault("belt b bears 1 |1", 1);
+        Due.fault("man m |reach", 1);
+        Due.fault("man m at 1 |;", 1);
+        Due.fault("man m at 1 reach |;", 1);
+        Due.fault("holes |;", 1);
+        Due.fault("water |;", 1);
+        Due.fault("rises |;", 1);
     }
 
     private static void numbers() {
-        fault("guest g plain at |0", 4);
-        fault("guest g plain at |10", 4);
-        fault("guest g plain at 9 chin |0", 4);
-        fault("guest g plain at 9 chin |41", 4);
-        fault("guest g plain at 9 chin 40 breath |0", 4);
-        fault("guest g plain at 9 chin 40 breath |10", 4);
-        fault("guest g plain at 9 chin 40 breath 9 weighs |0", 4);
-        fault("guest g plain at 9 chin 40 breath 9 weighs |31", 4);
-        fault("belt b bears |0", 4);
-        fault("belt b bears |41", 4);
-        fault("man m at |10", 4);
-        fault("man m at 9 reach |10", 4);
-        fault("holes |10", 4);
-        fault("water |41", 4);
-        right("guest g plain at 9 chin 40 breath 9 weighs 30 ; belt b bears 40 ; man m at 9 reach 9 ; holes 9 ; water 40 ;");
-        right("guest g plain at 1 chin 1 breath 1 weighs 1 ; belt b bears 1 ; man m at 0 reach 0 ; holes 0 ; water 0 ;");
-        right("rises 9999 ;");
-        fault("rises |10000 ;", 1);
+        Due.fault("guest g plain at |0", 4);
+        Due.fault("guest g plain at |10", 4);
+        Due.fault("guest g plain at 9 chin |0", 4);
+        Due.fault("guest g plain at 9 chin |41", 4);
+        Due.fault("guest g plain at 9 chin 40 breath |0", 4);
+        Due.fault("guest g plain at 9 chin 40 breath |10", 4);
+        Due.fault("guest g plain at 9 chin 40 breath 9 weighs |0", 4);
+        Due.fault("guest g plain at 9 chin 40 breath 9 weighs |31", 4);
+        Due.fault("belt b bears |0", 4);
+        Due.fault("belt b bears |41", 4);
+        Due.fault("man m at |10", 4);
+        Due.fault("man m at 9 reach |10", 4);
+        Due.fault("holes |10", 4);
+        Due.fault("water |41", 4);
+        Due.right("guest g plain at 9 chin 40 breath 9 weighs 30 ; belt b bears 40 ; man m at 9 reach 9 ; holes 9 ; water 40 ;");
+        Due.right("guest g plain at 1 chin 1 breath 1 weighs 1 ; belt b bears 1 ; man m at 0 reach 0 ; holes 0 ; water 0 ;");
+        Due.right("rises 9999 ;");
+        Due.fault("rises |10000 ;", 1);
     }
 
     private static void names() {
         String[] kept = {"guest", "at", "chin", "breath", "weighs", "belt", "bears", "man", "reach", "holes", "water", "rises",
             "minute", "cast", "ask", "stop", "plain", "waver", "heavy", "shabby", "not", "and", "or"};
         for (String word : kept) {
-            fault("belt |" + word + " bears 1 ;", 1);
+            Due.fault("belt |" + word + " bears 1 ;", 1);
         }
         for (String word : new String[] {"gaps", "depth", "talk", "out", "a", "z", "guests", "gues", "holesx", "buffet"}) {
-            right("belt " + word + " bears 1 ;");
+            Due.right("belt " + word + " bears 1 ;");
         }
-        fault(GUEST + " guest |g", 3);
-        fault(GUEST + " belt |g", 3);
-        fault(GUEST + " man |g", 3);
-        fault("man m at 1 reach 1 ; belt |m", 3);
-        fault("belt b bears 1 ; man |b", 3);
-        fault("belt b bears 1 ; belt bb bears 1 ; belt |b", 3);
-        right("guest a plain at 1 chin 1 breath 1 weighs 1 ; belt b bears 1 ; man c at 1 reach 1 ; belt aa bears 1 ;");
+        Due.fault(GUEST + " guest |g", 3);
+        Due.fault(GUEST + " belt |g", 3);
+        Due.fault(GUEST + " man |g", 3);
+        Due.fault("man m at 1 reach 1 ; belt |m", 3);
+        Due.fault("belt b bears 1 ; man |b", 3);
+        Due.fault("belt b bears 1 ; belt bb bears 1 ; belt |b", 3);
+        Due.right("guest a plain at 1 chin 1 breath 1 weighs 1 ; belt b bears 1 ; man c at 1 reach 1 ; belt aa bears 1 ;");
     }
 
     private static void once() {
-        fault("holes 1 ; |holes 1 ;", 3);
-        fault("water 1 ; holes 1 ; |water", 3);
-        fault("rises 1 ; water 1 ; |rises 1 ;", 3);
+        Due.fault("holes 1 ; |holes 1 ;", 3);
+        Due.fault("water 1 ; holes 1 ; |water", 3);
+        Due.fault("rises 1 ; water 1 ; |rises 1 ;", 3);
     }
 
     private static void tooMany() {
@@ -237,10 +220,10 @@ public final class ReadingTest {
         for (int i = 0; i < 3; i++) {
             men.append("man m").append((char) ('a' + i)).append(" at 1 reach 1 ;");
         }
-        right(guests.toString() + belts + men);
-        fault(guests + "|guest", 5);
-        fault(belts + "|belt b", 5);
-        fault(belts.toString() + men + "|man", 5);
+        Due.right(guests.toString() + belts + men);
+        Due.fault(guests + "|guest", 5);
+        Due.fault(belts + "|belt b", 5);
+        Due.fault(belts.toString() + men + "|man", 5);
     }
 
     /** How much deeper it is by a law behind a minute, from 20 on, by 2 holes, with a guest, a belt of two out. */
@@ -291,23 +274,23 @@ public final class ReadingTest {
         law("1 and 1 + 1 = 2", 1);
         law("gaps=2", 1);
         law("( ( ( ( gaps ) ) ) )", 2);
-        fault("rises 1 |2", 1);
-        fault("rises 1 < 2 |< 3", 1);
-        fault("rises 1 = 2 |= 3", 1);
-        fault("rises |- 1", 1);
-        fault("rises 1 + |;", 1);
-        fault("rises 1 * |* 2", 1);
-        fault("rises ( 1 |;", 1);
-        fault("rises 1 |) ;", 1);
-        fault("rises ( |) ;", 1);
-        fault("rises |and 1 ;", 1);
-        fault("rises 1 and |or 1 ;", 1);
-        fault("rises 1 |not 1 ;", 1);
-        fault("rises |water ;", 1);
-        fault("rises not |;", 1);
-        fault("rises |x ;", 1);
-        fault("rises 1 |x ;", 1);
-        right("rises (1)and(2)or not(3);");
+        Due.fault("rises 1 |2", 1);
+        Due.fault("rises 1 < 2 |< 3", 1);
+        Due.fault("rises 1 = 2 |= 3", 1);
+        Due.fault("rises |- 1", 1);
+        Due.fault("rises 1 + |;", 1);
+        Due.fault("rises 1 * |* 2", 1);
+        Due.fault("rises ( 1 |;", 1);
+        Due.fault("rises 1 |) ;", 1);
+        Due.fault("rises ( |) ;", 1);
+        Due.fault("rises |and 1 ;", 1);
+        Due.fault("rises 1 and |or 1 ;", 1);
+        Due.fault("rises 1 |not 1 ;", 1);
+        Due.fault("rises |water ;", 1);
+        Due.fault("rises not |;", 1);
+        Due.fault("rises |x ;", 1);
+        Due.fault("rises 1 |x ;", 1);
+        Due.right("rises (1)and(2)or not(3);");
     }
 
     private static void longLaws() {
@@ -328,18 +311,18 @@ public final class ReadingTest {
     }
 
     private static void levels() {
-        right("rises not not not not 1 ;");
-        right("rises ( ( ( ( 1 ) ) ) ) ;");
-        right("rises ( ( 1 ) ) * ( not not ( 2 ) + ( 3 ) ) ;");
-        fault("rises not not not not not |1 ;", 5);
-        fault("rises not not not not not |not 1 ;", 5);
-        fault("rises not not not not not |gaps ;", 5);
-        fault("rises ( ( ( ( ( |( 1 ;", 5);
-        fault("rises ( not ( not ( |1 ;", 5);
-        fault("rises 1 + ( 2 * ( 3 - not ( 4 and not |5 ) ) ) ;", 5);
-        fault("rises not not not not not |; ;", 1);
-        fault("rises ( ( ( ( ( |) ;", 1);
-        fault("rises ( ( ( ( ( |water ;", 1);
+        Due.right("rises not not not not 1 ;");
+        Due.right("rises ( ( ( ( 1 ) ) ) ) ;");
+        Due.right("rises ( ( 1 ) ) * ( not not ( 2 ) + ( 3 ) ) ;");
+        Due.fault("rises not not not not not |1 ;", 5);
+        Due.fault("rises not not not not not |not 1 ;", 5);
+        Due.fault("rises not not not not not |gaps ;", 5);
+        Due.fault("rises ( ( ( ( ( |( 1 ;", 5);
+        Due.fault("rises ( not ( not ( |1 ;", 5);
+        Due.fault("rises 1 + ( 2 * ( 3 - not ( 4 and not |5 ) ) ) ;", 5);
+        Due.fault("rises not not not not not |; ;", 1);
+        Due.fault("rises ( ( ( ( ( |) ;", 1);
+        Due.fault("rises ( ( ( ( ( |water ;", 1);
     }
 
     private static void evenings() {
@@ -364,40 +347,40 @@ public final class ReadingTest {
     }
 
     private static void eveningFaults() {
-        eveningFault("|tea", 1);
-        eveningFault("|guest", 1);
-        eveningFault("|;", 1);
-        eveningFault("ask |1", 1);
-        eveningFault("ask |", 1);
-        eveningFault("ask ; minute|", 1);
-        eveningFault("cast |;", 1);
-        eveningFault("cast |ask", 1);
-        eveningFault("cast |nobody", 2);
-        eveningFault("cast |ann", 2);
-        eveningFault("cast |flood", 2);
-        eveningFault("cast sam |ann", 2);
-        eveningFault("cast sam |tom", 2);
-        eveningFault("cast sam |9", 1);
-        eveningFault("cast sam |or", 1);
-        eveningFault("cast sam flood |sam", 2);
-        eveningFault("cast sam flood |dogs", 2);
-        eveningFault("cast sam flood |and", 1);
-        eveningFault("cast sam flood |gaps", 2);
-        eveningFault("cast sam flood ann |ann", 1);
-        eveningFault("stop |ann", 2);
-        eveningFault("stop |nobodyatall", 1);
-        eveningFault("stop |stop", 1);
-        eveningFault("stop sam |sam", 1);
+        Due.eveningFault("|tea", 1);
+        Due.eveningFault("|guest", 1);
+        Due.eveningFault("|;", 1);
+        Due.eveningFault("ask |1", 1);
+        Due.eveningFault("ask |", 1);
+        Due.eveningFault("ask ; minute|", 1);
+        Due.eveningFault("cast |;", 1);
+        Due.eveningFault("cast |ask", 1);
+        Due.eveningFault("cast |nobody", 2);
+        Due.eveningFault("cast |ann", 2);
+        Due.eveningFault("cast |flood", 2);
+        Due.eveningFault("cast sam |ann", 2);
+        Due.eveningFault("cast sam |tom", 2);
+        Due.eveningFault("cast sam |9", 1);
+        Due.eveningFault("cast sam |or", 1);
+        Due.eveningFault("cast sam flood |sam", 2);
+        Due.eveningFault("cast sam flood |dogs", 2);
+        Due.eveningFault("cast sam flood |and", 1);
+        Due.eveningFault("cast sam flood |gaps", 2);
+        Due.eveningFault("cast sam flood ann |ann", 1);
+        Due.eveningFault("stop |ann", 2);
+        Due.eveningFault("stop |nobodyatall", 1);
+        Due.eveningFault("stop |stop", 1);
+        Due.eveningFault("stop sam |sam", 1);
         StringBuilder forty = new StringBuilder();
         for (int i = 0; i < 40; i++) {
             forty.append("ask;");
         }
-        eveningFault(forty + "|minute", 5);
-        eveningFault(forty + "|ask ;", 5);
-        eveningFault(forty + "|cast", 5);
-        eveningFault(forty + "|stop x", 5);
-        eveningFault(forty + "|tea", 1);
-        eveningFault(forty + "|;", 1);
+        Due.eveningFault(forty + "|minute", 5);
+        Due.eveningFault(forty + "|ask ;", 5);
+        Due.eveningFault(forty + "|cast", 5);
+        Due.eveningFault(forty + "|stop x", 5);
+        Due.eveningFault(forty + "|tea", 1);
+        Due.eveningFault(forty + "|;", 1);
         SilenceBall ball = new SilenceBall();
         Due.is("no man yet", Due.evening(ball, "stop sam ;"), 2 + 16 * 5);
     }
