@@ -10,6 +10,7 @@ public final class EdgesOfActsTest {
         wavers();
         cries();
         free();
+        freeEachAlone();
         castRefused();
         castGone();
         castReach();
@@ -30,8 +31,10 @@ public final class EdgesOfActsTest {
         undoOneByOne();
         undoSixteen();
         undoRound();
+        undoOfEach();
         judgedFromTheBegin();
         judgedCantBe();
+        judgedLeftOut();
         judgedSunk();
         judgedSafe();
         guestOthers();
@@ -154,6 +157,26 @@ public final class EdgesOfActsTest {
         Due.is("the next minute", ball.man(0, 2) + ball.man(1, 2) + ball.man(2, 2), 3);
     }
 
+    /** FREE is told of each MAN alone: another's doing, ahead or behind, makes nobody free. */
+    private static void freeEachAlone() {
+        for (int doing = 0; doing < 8; doing++) {
+            SilenceBall ball = Due.ball(Due.guest("g", "plain", 5, 40, 9, 1) + Due.guest("h", "plain", 5, 40, 9, 1) + Due.guest("i", "plain", 5, 40, 9, 1)
+                + Due.belt("b", 1) + Due.belt("c", 1) + Due.belt("d", 1) + Due.man("m", 5, 0) + Due.man("n", 5, 0) + Due.man("o", 5, 0) + "holes 9 ;");
+            for (int man : new int[] {1, 0, 2}) {
+                Due.is("free ahead", ball.man(man, 2), 1);
+                boolean done = (doing >> man & 1) == 1 ? ball.cast(man, man, man) : ball.stop(man) > 0;
+                Due.is("done", done, true);
+                for (int other = 0; other < 3; other++) {
+                    boolean ahead = other == man || other == 1 || man == 2;
+                    Due.is("free behind " + man + ": " + other, ball.man(other, 2), ahead ? 0 : 1);
+                }
+            }
+            for (int man = 0; man < 3; man++) {
+                Due.is("nothing more", ball.stop(man), -1);
+            }
+        }
+    }
+
     private static SilenceBall ready() {
         return Due.ball(Due.guest("g", "plain", 5, 40, 9, 1) + Due.guest("h", "shabby", 5, 40, 9, 1) + Due.guest("i", "plain", 5, 40, 9, 1)
             + Due.belt("b", 1) + Due.belt("c", 1) + Due.man("m", 5, 0) + Due.man("n", 5, 0) + "holes 1 ;");
@@ -227,6 +250,10 @@ public final class EdgesOfActsTest {
         Due.is("the wall", ball.count(9), 1);
         Due.is("an act", ball.count(12), 1);
         Due.is("the others have none", ball.guest(0, 5), -1);
+        ball = one("plain", 5, 40, 9, 1, Due.belt("b", 1) + Due.belt("c", 1) + Due.man("m", 9, 0) + Due.man("n", 9, 0) + Due.man("o", 5, 0));
+        Due.is("more men than guests", ball.cast(2, 1, 0), true);
+        Due.is("the belt", ball.guest(0, 5), 1);
+        Due.is("who has it", ball.belt(1, 1), 0);
     }
 
     /** ASK: one hole more, 9 at most (at 9 it can't be). */
@@ -513,6 +540,32 @@ public final class EdgesOfActsTest {
         Due.is("no more", ball.undo(), false);
     }
 
+    /** UNDO and MARKS bring back all of each, of the last of six as of the first; and all is reckoned from what each has. */
+    private static void undoOfEach() {
+        StringBuilder text = new StringBuilder("water 9 ;");
+        for (int g = 0; g < 6; g++) {
+            text.append(Due.guest("g" + (char) ('a' + g), "plain", g + 4, 1, 9 - g, g + 1));
+        }
+        SilenceBall ball = Due.ball(text.toString());
+        ball.mark(3, false);
+        for (int n = 1; n <= 2; n++) {
+            ball.minute();
+            for (int g = 0; g < 6; g++) {
+                Due.is("breath behind " + n, ball.guest(g, 3), 9 - g - n);
+                Due.is("sunk from now on", ball.sinks(g), 9 - g - n);
+            }
+        }
+        ball.undo();
+        for (int g = 0; g < 6; g++) {
+            Due.is("breath as it was", ball.guest(g, 3), 8 - g);
+        }
+        ball.mark(3, true);
+        for (int g = 0; g < 6; g++) {
+            Due.is("breath as it was at first", ball.guest(g, 3), 9 - g);
+            Due.is("sunk from then on", ball.sinks(g), 9 - g);
+        }
+    }
+
     private static SilenceBall told(String evening) {
         SilenceBall ball = Due.ball();
         Due.is("evening", Due.evening(ball, evening), 0);
@@ -548,6 +601,11 @@ public final class EdgesOfActsTest {
         judges("ask ; cast sam flood bob ; cast sam flood dee ;", 1, -1, 0);
         judges("stop sam ; stop sam ;", 1, -1, 0);
         judges("stop sam ; stop tom ; minute ; stop sam ;", 3, -1, 0);
+        judges("ask ; stop tom ; stop tom ;", 2, -1, 0);
+        judges("ask ; stop tom ; stop sam ;", -1, -1, 0);
+        judges("ask ; stop sam ; stop tom ; stop sam ;", 3, -1, 0);
+        judges("ask ; cast tom weather cy ; stop tom ;", 2, -1, 0);
+        judges("ask ; cast tom weather cy ; cast sam flood ann ; stop tom ;", 3, -1, 0);
         judges("ask;".repeat(7), -1, -1, 0);
         judges("ask;".repeat(8), 7, -1, 0);
         judges("ask;".repeat(7) + "minute;".repeat(32) + "ask;", 39, 9, 1);
@@ -555,6 +613,27 @@ public final class EdgesOfActsTest {
         judges("cast sam flood bob ; cast sam flood ann ; cast tom weather cy ; cast tom dogs bob ; minute ; minute ; minute ; minute ; minute ; minute ;"
             + "minute ;", 0, -1, 3);
         judges("minute;".repeat(40), -1, 2, 1);
+    }
+
+    /** Lines that can't be are left out: nothing is done by them. */
+    private static void judgedLeftOut() {
+        String man = Due.man("m", 9, 0);
+        String[][] told = {
+            {"holes 9 ; rises 9 < gaps ;", "ask ;", "0"},
+            {"holes 0 ; rises gaps < 0 ;", "stop m ;", "0"},
+            {"holes 2 ; rises gaps < 1 ;", "stop m ; stop m ;", "1"},
+            {"holes 1 ; rises gaps < 1 or 1 < out ;", "cast m b g ; stop m ;", "1"},
+            {"holes 1 ; rises 0 < out ;", "stop m ; cast m b g ;", "1"},
+            {"rises 1 < out ;", "cast m b g ; cast m c h ;", "1"},
+            {"rises 0 < out ;", "cast m b h ;", "0"},
+        };
+        for (String[] it : told) {
+            SilenceBall ball = Due.ball(Due.guest("g", "waver", 9, 1, 1, 1) + Due.guest("h", "plain", 8, 1, 1, 1) + Due.belt("b", 1) + Due.belt("c", 1) + man
+                + "water 1 ;" + it[0]);
+            Due.is("evening", Due.evening(ball, it[1] + "minute ; minute ; minute ;"), 0);
+            Due.is(it[1] + " can't be", ball.judged(0), Integer.parseInt(it[2]));
+            Due.is(it[1] + " it is no deeper", ball.judged(1), -1);
+        }
     }
 
     /** The first line by which a GUEST is SUNK. */

@@ -12,6 +12,7 @@ public final class EdgesOfChanceTest {
         holesFromTheBegin();
         lookRange();
         lookFirst();
+        lookOfTheseAlone();
         lookNone();
         chanceRange();
         chanceIfItCanBe();
@@ -132,6 +133,20 @@ public final class EdgesOfChanceTest {
         Due.is("of nine", ball.look(), 3);
         ball.see(3, 3);
         Due.is("of three", ball.look(), -1);
+    }
+
+    /** Of these: those by which not all SEEN is so are not told, as deep as they may be. */
+    private static void lookOfTheseAlone() {
+        // behind 1 it is 1 deep by three holes, 0 by all others; from 2 on it is 9 deep by two and by three, 0 by all others
+        SilenceBall ball = Due.ball(Due.guest("g", "shabby", 2, 1, 1, 1)
+            + "rises talk * ( gaps = 3 ) + ( 1 - talk ) * ( 1 < gaps and gaps < 4 ) * ( 9 - depth ) ;");
+        Due.is("two of ten", ball.look(), 2);
+        ball.see(9, 2);
+        Due.is("two are left", ball.holes(), 12);
+        Due.is("though two is as deep as many that are not", ball.look(), 1);
+        ball.see(0, 1);
+        Due.is("one is left", ball.holes(), 4);
+        Due.is("none parts it", ball.look(), -1);
     }
 
     /** If that is less than all; NONE: none parts them. */

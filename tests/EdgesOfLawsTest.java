@@ -15,6 +15,7 @@ public final class EdgesOfLawsTest {
         theEnd();
         firstFromTheLeft();
         cantStandThere();
+        noOtherBegins();
         noMan();
         noBelt();
         noGuest();
@@ -254,6 +255,23 @@ public final class EdgesOfLawsTest {
             Due.eveningFault(ahead + "|1", 1);
             Due.eveningFault(ahead + "|holes", 1);
             ahead += word + " ";
+        }
+    }
+
+    /** 1 can't stand there: a line begins by no WORD but its own, nor by anything else. */
+    private static void noOtherBegins() {
+        String room = "guest belt man holes water rises ";
+        String evening = "minute cast ask stop ";
+        String others = "at chin breath weighs bears reach plain waver heavy shabby not and or gaps depth talk out ann flood sam tea 0 9999 10000 ( ) < = + - * ;";
+        for (String word : (evening + others).split(" ")) {
+            Due.fault("|" + word, 1);
+            Due.fault("|" + word + " ;", 1);
+            Due.fault("holes 1 ; |" + word + " 1 ;", 1);
+        }
+        for (String word : (room + others).split(" ")) {
+            Due.eveningFault("|" + word, 1);
+            Due.eveningFault("|" + word + " ;", 1);
+            Due.eveningFault("ask ; |" + word + " sam ;", 1);
         }
     }
 

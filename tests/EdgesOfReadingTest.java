@@ -33,6 +33,7 @@ public final class EdgesOfReadingTest {
         sixGuests();
         fiveBelts();
         threeMen();
+        allByTheirNames();
         told0();
         toldOnce();
         eveningLines();
@@ -371,6 +372,29 @@ public final class EdgesOfReadingTest {
         Due.is("no fourth", ball.man(3, 0), -1);
         Due.fault(men(3) + "|man", 5);
         Due.fault(men(3) + belts(5) + "|man ma at", 5);
+    }
+
+    /** Numbered as told: each of a full room is found by its NAME. */
+    private static void allByTheirNames() {
+        for (int m = 0; m < 3; m++) {
+            SilenceBall ball = Due.ball(guests(6) + belts(5) + men(3));
+            ball.stop(m);
+            for (int b = 0; b < 5; b++) {
+                for (int g = 0; g < 6; g++) {
+                    String line = "cast m" + (char) ('a' + m) + " b" + (char) ('a' + b) + " g" + (char) ('a' + g) + ";";
+                    Due.is(line, Due.evening(ball, line + line + "minute;".repeat(g + 1)), 0);
+                    Due.is(line + " once", ball.judged(0), 1);
+                    Due.is(line + " home", ball.judged(2), 1);
+                }
+            }
+        }
+        // each man has a place that the others do not reach, each belt bears what those ahead of it do not
+        SilenceBall ball = Due.ball("water 9 ;" + Due.guest("ga", "plain", 1, 1, 1, 1) + Due.guest("gb", "plain", 2, 1, 1, 2) + Due.guest("gc", "plain", 3, 1, 1, 3)
+            + Due.belt("ba", 1) + Due.belt("bb", 2) + Due.belt("bc", 3) + Due.man("ma", 1, 0) + Due.man("mb", 2, 0) + Due.man("mc", 3, 0));
+        Due.is("all three", Due.evening(ball, "cast mc bc gc; cast ma ba ga; cast mb bb gb; minute; minute; minute;"), 0);
+        Due.is("each reaches his", ball.judged(0), -1);
+        Due.is("each is borne", ball.judged(1), -1);
+        Due.is("all are safe", ball.judged(2), 3);
     }
 
     /** Holes 0 to 9 (0). water 0 to 40 (0). Without rises: gaps. */

@@ -730,6 +730,14 @@ public final class EdgesOfReckoningTest {
         // sunk in the very last minute ahead of the buffet
         Due.is("from the far end", one("plain", 9, 1, 9, 9, more).save(0, 0, 0), false);
         Due.is("a minute later", one("plain", 9, 2, 9, 9, more + "rises 1 ;").save(0, 0, 0), true);
+        // the first guest is SAFE, the second is not by that
+        SilenceBall ball = Due.ball(Due.guest("g", "shabby", 1, 1, 1, 1) + Due.guest("h", "plain", 4, 1, 4, 9) + Due.guest("i", "plain", 4, 1, 5, 9) + more);
+        ball.minute();
+        Due.is("SUNK with it on", ball.save(1, 0, 0), false);
+        Due.is("one breath too few", ball.save(2, 0, 0), false);
+        ball.undo();
+        Due.is("SUNK with it on", ball.save(1, 0, 0), false);
+        Due.is("SAFE by a breath", ball.save(2, 0, 0), true);
     }
 
     /** WORTH: SUNK by 60 if nothing is done, and whom he SAVES by the BELT that ENOUGH tells (it must be able to be), each alone. */
